@@ -67,6 +67,15 @@ public final class NowTest {
         Checks.due("8: it comes in START and in a rule of it", unused.rule(0, 4), 3);
         Checks.due("8: what does not come", unused.rule(2, 4), 0);
         Checks.due("8: depth of what does not come", unused.rule(2, 3), 3);
+        // a rule of a low number that uses one of a high number
+        PairRules crossed = crossed();
+        int[][] lowAndHigh = {{2, 1, 10, 2, 1}, {5, 3, 5, 1, 3}};
+        for (int what = 0; what < 5; what++) {
+            Checks.due("8: a low rule " + what, crossed.rule(0, what), lowAndHigh[0][what]);
+            Checks.due("8: a high rule " + what, crossed.rule(1, what), lowAndHigh[1][what]);
+        }
+        Checks.due("8: it is expanded in the low one", crossed.expand(1), 3);
+        Checks.due("8: it is expanded in the low one", Checks.rows(crossed), "(0)abcdcde 0=cdcdecdcde");
         PairRules chain = chain();
         Checks.due("8: depth of a chain", chain.rule(39, 3), 40);
         Checks.due("8: LENGTH of a chain", chain.rule(39, 2), 41);
@@ -78,6 +87,14 @@ public final class NowTest {
         Checks.badIndex("8: rule 40", () -> rules.rule(40, 0));
         Checks.badArgument("8: what -1", () -> rules.rule(0, -1));
         Checks.badArgument("8: what 5", () -> rules.rule(0, 5));
+    }
+
+    private static PairRules crossed() {
+        PairRules rules = Checks.loaded("rule cd;rule(0)(0)e;start(1)(1)ab(1)");
+        rules.expand(0);
+        rules.make(27, 27);
+        Checks.due("8: its rows", Checks.rows(rules), "(0)ab(1) 0=(1)(1) 1=cdcde");
+        return rules;
     }
 
     /** Forty rules, each of the one ahead of it and a letter. */
@@ -148,6 +165,11 @@ public final class NowTest {
         for (int letter = 0; letter < 26; letter++) {
             Checks.due("13: letters " + letter, rules.letters(letter), due[letter]);
         }
+        rules.append(0);
+        rules.append(25);
+        Checks.due("13: as it is now", rules.letters(0) * 10 + rules.letters(25), 61);
+        rules.cut(4);
+        Checks.due("13: as it is now", rules.letters(0) * 10 + rules.letters(1), 54);
         Checks.due("13: the last letter", Checks.loaded("start zzaz").letters(25), 3);
         Checks.badArgument("13: letters -1", () -> rules.letters(-1));
         Checks.badArgument("13: letters 26", () -> rules.letters(26));

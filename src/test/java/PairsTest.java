@@ -78,6 +78,8 @@ public final class PairsTest {
         best("rule cdx;rule abycd;start zab;tie 1", 0, 1, 2, NONE, 2);
         best("rule efx;rule abyef;rule cdzab;start wcd;tie 1", 2, 3, 2, NONE, 3);
         best("rule xef;rule yabef;rule zabq;start w;tie 1", 4, 5, 2, NONE, 2);
+        best("rule ab;start cdxcdyabzab;tie 1", 2, 3, 2, NONE, 2);
+        best("rule cd;start cdxcdyabzab;tie 0", 0, 1, 2, NONE, 2);
         best("start babaxab;tie 1;least 2", 1, 0, 2, NONE, 2);
         best("start aaaxaabb;tie 1", 0, 0, 2, NONE, 1);
         // LENGTH of both, then as by 0
@@ -180,6 +182,14 @@ public final class PairsTest {
             Checks.due("24, 25: nothing is recorded", rules.size(11), 0);
             Checks.due("24: as many are made", rules.step(50), steps[i]);
         }
+        PairRules later = Checks.loaded("start a");
+        Checks.play(later, "append babab;");
+        Checks.due("24: the rows as they are now", later.stepsLeft(), 1);
+        Checks.due("25: the rows as they are now", later.sizeIn(1), 5);
+        later.make(0, 1);
+        later.cut(3);
+        Checks.due("28: the rows as they are now", later.inlinable(), 1);
+        Checks.due("24: the rows as they are now", later.stepsLeft(), 0);
         PairRules unused = Checks.loaded("rule ab;start c(0)");
         Checks.due("25: without a step nothing is inlined", unused.sizeIn(5), 4);
         PairRules rules = new PairRules();

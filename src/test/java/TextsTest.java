@@ -35,11 +35,19 @@ public final class TextsTest {
         Checks.due("2: 595 bytes", rules.feed(0, 0, 0, 0, 0), 595);
         Checks.due("2: one more than there may be", rules.feed(0x20202020, 0, 0x00200000, 0, 0x20), NONE);
         Checks.due("2: nothing was appended", rules.feed(0, 0, 0, 0, 0), 595);
+        Checks.due("2: too many, the second one", rules.feed(0x20202020, 0x20200000, 0, 0, 0), NONE);
+        Checks.due("2: too many, the third one", rules.feed(0, 0x20202020, 0x20002000, 0, 0), NONE);
+        Checks.due("2: too many, the fourth one", rules.feed(0, 0, 0x20202020, 0x202020, 0), NONE);
+        Checks.due("2: too many, the fifth one", rules.feed(0, 0, 0, 0x20202020, 0x2020), NONE);
+        Checks.due("2: too many, all of them", rules.feed(-1, -1, -1, -1, -1), NONE);
+        Checks.due("2: nothing was appended", rules.feed(0, 0, 0, 0, 0), 595);
         Checks.due("2: the zeros do not count", rules.feed(0x20000000, 0x20, 0x2000, 0x200000, 0x62), 600);
         Checks.due("2: full", rules.feed(0, 0, 0, 0, 0x20), NONE);
         Checks.due("2: full still", rules.feed(0, 0, 0, 0, 0), 600);
         Checks.due("2: the whole buffer is read", rules.load(), 2);
         Checks.due("2: the whole buffer is read", Checks.text(rules), "ab");
+        Checks.feed(rules, Checks.times(" ", 599));
+        Checks.due("2: bytes whose bits lie close", rules.feed(0x81000000, 0, 0, 0, 0), 600);
     }
 
     private static void loadError(String setup, int code, int position) {
@@ -86,6 +94,8 @@ public final class TextsTest {
         PairRules rules = Checks.loaded(forty + "start a");
         Checks.due("3: forty rules", rules.size(2), 40);
         Checks.due("3: forty rules, none inlined", rules.isRule(39) ? 1 : 0, 1);
+        rules = Checks.loaded("rule ab;start(0)c;inline0;least9;tie2");
+        Checks.due("3: tokens that touch", rules.size(4) * 100 + rules.size(5) * 10 + rules.size(6), 920);
         rules = Checks.loaded("start a;inline 0;least 000009;tie 2");
         Checks.due("3: numbers told", rules.size(4) * 100 + rules.size(5) * 10 + rules.size(6), 920);
         Checks.due("3: numbers not told", Checks.load(rules, "start a"), 1);
@@ -102,6 +112,12 @@ public final class TextsTest {
         Checks.nothingThere("3: restore 0", () -> behind.restore(0));
         Checks.nothingThere("3: restore 1", () -> behind.restore(1));
         Checks.due("3: the latest report stays", rules.reportByte(1), 'b');
+        rules = Checks.loaded("rule cd;start ababx(0)");
+        Checks.due("3: what was tried", rules.stepsLeft() * 10 + rules.inlinable(), 11);
+        Checks.due("3: leaves nothing in the next rows", Checks.load(rules, "start abab"), 4);
+        Checks.due("3: leaves nothing in the next rows", Checks.rows(rules), "abab");
+        Checks.due("3: leaves nothing in the accounts", Checks.accounts(rules), "0 0 0 0 0 0 0 0 0");
+        Checks.due("3: leaves nothing in the gaps", rules.gap() * 1000 + rules.rulesGap(), 0);
     }
 
     private static void promise3LoadErrors() {
@@ -115,6 +131,10 @@ public final class TextsTest {
         loadError("start a;;", 1, 8);
         loadError("Start a", 1, 0);
         loadError("abc", 1, 0);
+        loadError("xtart a", 1, 0);
+        loadError("starx a", 1, 0);
+        loadError("starts a", 1, 0);
+        loadError("xule ab;start a", 1, 0);
         loadError("5", 1, 0);
         loadError("(0)", 1, 0);
         loadError("start a#", 1, 7);
@@ -229,6 +249,9 @@ public final class TextsTest {
         scriptError("again 21();", 2, 6);
         scriptError("again ();", 1, 6);
         scriptError("again 2;", 1, 7);
+        scriptError("again 2 step 1;", 1, 8);
+        scriptError("xtep 1;", 1, 0);
+        scriptError("steps 1;", 1, 0);
         scriptError("again 2(", 1, 8);
         scriptError("again 2()", 1, 9);
         scriptError("again 2(step 1);", 1, 14);
@@ -271,6 +294,7 @@ public final class TextsTest {
         playGood("start a", " \n ", 0, "a", "0 0 0 0 0 0 0 0 0");
         playGood("start abab", "step 1;", 1, "(0)(0) 0=ab", "1 1 0 0 0 2 0 0 0");
         playGood("start abab", "step 50;inlined;", 2, "(0)(0) 0=ab", "1 1 0 0 0 2 0 0 0");
+        playGood("start abab", "step5;append c;cut1;append\nd ;", 4, "(0)(0)d 0=ab", "1 1 0 0 0 2 2 1 0");
         playGood("rule ab;start (0)c", "inlined;", 1, "abc", "0 0 1 0 0 0 0 0 0");
         playGood("start abc", "make ab;make bc;append b;", 1, "(0)c 0=ab", "0 1 0 0 0 1 0 0 0");
         playGood("rule ab;start (0)(0)", "expand 0;expand 0;append c;", 1, "abab", "0 0 0 0 1 0 0 0 0");
@@ -293,6 +317,14 @@ public final class TextsTest {
             "a" + Checks.times("b", 29), "0 0 0 0 0 0 29 0 0");
         PairRules full = Checks.loaded(Checks.times("rule cd;", 40) + "start abab");
         Checks.due("4: a make without a free number", Checks.play(full, "append e;make ab;append f;"), 1);
+        Checks.due("4: the last number of a rule", Checks.play(full, "expand 39;make ab;expand 39;"), 3);
+        PairRules again = Checks.loaded("start a");
+        for (int i = 0; i < 4; i++) {
+            Checks.due("4: each script by itself", Checks.play(again, Checks.times("inlined;", 20)), 20);
+            Checks.due("4: each script by itself", Checks.play(again, "again 1(again 1(append b;x"), -11);
+            Checks.due("4: each script by itself", Checks.play(again, "again 2(append c;);append d;"), 3);
+        }
+        Checks.due("4: each script by itself", Checks.rows(again), "accdccdccdccd");
         PairRules rules = Checks.loaded("start a");
         Checks.play(rules, "least 9;tie 2;mode 0;");
         Checks.due("4: numbers", rules.size(4) * 100 + rules.size(5) * 10 + rules.size(6), 920);
