@@ -76,6 +76,16 @@ public final class NowTest {
         }
         Checks.due("8: it is expanded in the low one", crossed.expand(1), 3);
         Checks.due("8: it is expanded in the low one", Checks.rows(crossed), "(0)abcdcde 0=cdcdecdcde");
+        PairRules three = Checks.loaded("rule cd;rule(0)(0)e;rule(1)f;start(2)(1)ab(2)(1)");
+        three.expand(0);
+        three.make(28, 27);
+        Checks.due("8: three crossed rules", Checks.rows(three), "(0)ab(0) 0=(2)(1) 1=cdcde 2=(1)f");
+        int[][] crosses = {{3, 2}, {1, 4}, {2, 2}};
+        for (int rule = 0; rule < 3; rule++) {
+            Checks.due("8: depth of crossed rule " + rule, three.rule(rule, 3), crosses[rule][0]);
+            Checks.due("8: comings of crossed rule " + rule, three.rule(rule, 4), crosses[rule][1]);
+        }
+        Checks.due("8: the deepest SYMBOL of crossed rules", three.size(8), 3);
         PairRules chain = chain();
         Checks.due("8: depth of a chain", chain.rule(39, 3), 40);
         Checks.due("8: LENGTH of a chain", chain.rule(39, 2), 41);

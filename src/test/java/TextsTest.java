@@ -113,7 +113,7 @@ public final class TextsTest {
         Checks.nothingThere("3: restore 1", () -> behind.restore(1));
         Checks.due("3: the latest report stays", rules.reportByte(1), 'b');
         rules = Checks.loaded("rule cd;start ababx(0)");
-        Checks.due("3: what was tried", rules.stepsLeft() * 10 + rules.inlinable(), 11);
+        Checks.due("3: what was tried", rules.inlinable() * 10 + rules.stepsLeft(), 11);
         Checks.due("3: leaves nothing in the next rows", Checks.load(rules, "start abab"), 4);
         Checks.due("3: leaves nothing in the next rows", Checks.rows(rules), "abab");
         Checks.due("3: leaves nothing in the accounts", Checks.accounts(rules), "0 0 0 0 0 0 0 0 0");
