@@ -1117,21 +1117,15 @@ public final class PairRules {
         }
 
         private boolean isAheadByTie(int pair, int other) {
-            int tie = grammar == null ? 0 : grammar.number(TIE);
-            if (tie == 1) {
+            if (grammar == null || grammar.number(TIE) == 0) {
+                return pair < other;
+            }
+            if (grammar.number(TIE) == 1) {
                 return places[pair] < places[other];
             }
-            if (tie == 2 && lengthOf(pair) != lengthOf(other)) {
-                return lengthOf(pair) > lengthOf(other);
-            }
-            return pair < other;
-        }
-
-        private int lengthOf(int pair) {
-            if (grammar == null) {
-                return 0;
-            }
-            return grammar.lengthOf(firstOf(pair)) + grammar.lengthOf(secondOf(pair));
+            int longer = grammar.lengthOf(firstOf(pair)) + grammar.lengthOf(secondOf(pair))
+                - grammar.lengthOf(firstOf(other)) - grammar.lengthOf(secondOf(other));
+            return longer == 0 ? pair < other : longer > 0;
         }
     }
 
