@@ -1641,13 +1641,13 @@ public final class PairRules {
             if (!source.readNumber(Word.RULE.lowest, Word.RULE.highest)) {
                 return false;
             }
+            // an item too many is wrong at its bracket, which lies ahead of its RULE and of all behind that
+            if (row.many() >= LONGEST) {
+                return source.failAt(TOO_MANY, bracket);
+            }
             int rule = source.value();
             if (rule >= rulesTold) {
                 return source.fail(UNTOLD_OR_NOT_TWO);
-            }
-            source.advance();
-            if (!source.is(Source.SHUT)) {
-                return source.fail(MISPLACED);
             }
             length += goal.lengthOf(ALPHABET + rule);
             if (length > LONGEST) {
@@ -1655,7 +1655,7 @@ public final class PairRules {
             }
             row.put(ALPHABET + rule);
             source.advance();
-            return true;
+            return source.pass(Source.SHUT);
         }
 
         private boolean readStatements() {

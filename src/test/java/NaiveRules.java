@@ -318,6 +318,7 @@ final class NaiveRules {
 
     private List<Integer> passItems(State goal) {
         List<Integer> row = new ArrayList<>();
+        boolean closed = true;
         while (isWord() || here().equals("(")) {
             Wrong tooLong = wrong(5);
             if (isWord()) {
@@ -327,16 +328,20 @@ final class NaiveRules {
                 token++;
             } else {
                 token++;
+                Wrong untold = wrong(4);
                 int rule = passNumber(0, 39);
-                if (!goal.rules.containsKey(rule)) {
-                    token--;
-                    throw wrong(4);
-                }
-                pass(")");
                 row.add(26 + rule);
+                if (row.size() <= 400 && !goal.rules.containsKey(rule)) {
+                    throw untold;
+                }
+                closed = false;
             }
             if (row.size() > 400 || goal.unfold(row).length() > 400) {
                 throw tooLong;
+            }
+            if (!closed) {
+                pass(")");
+                closed = true;
             }
         }
         if (row.isEmpty()) {

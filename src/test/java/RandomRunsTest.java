@@ -166,7 +166,7 @@ public final class RandomRunsTest {
     private void run() {
         for (int i = below(3); i < 3; i++) {
             if (i > 0) {
-                feed(texts.setup());
+                feed(below(5) == 0 ? texts.fullSetup() : texts.setup());
                 same("load", real::load, naive::load);
                 same("errorPosition", real::errorPosition, naive::errorPosition);
             }

@@ -53,6 +53,21 @@ final class RandomTexts {
         return hurt(text.toString());
     }
 
+    /** A row of about 400 letters, which often ends inside an item. */
+    String fullSetup() {
+        int unit = 2 + random.nextInt(100);
+        int copies = once(3) ? 0 : Math.min(30, 400 / unit);
+        int letters = Math.max(0, 400 - copies * unit - random.nextInt(3));
+        String row = "(0)".repeat(copies) + (once(2) ? " " : "") + "b".repeat(letters);
+        String[] ends = {"(0)", "(0)", "(1)", "(40)", "()", "c", ""};
+        for (int i = random.nextInt(4); i > 0; i--) {
+            row += ends[random.nextInt(ends.length)];
+        }
+        String head = "rule " + "a".repeat(unit) + (once(3) ? ";rule " : ";start ");
+        String whole = head + row.substring(0, row.length() - (once(2) ? Math.min(2, row.length()) : 0));
+        return hurt(whole + (once(2) ? ";start(1)" : statements()));
+    }
+
     private String order(int nested) {
         switch (random.nextInt(12)) {
             case 0: case 1: return "step " + (1 + random.nextInt(once(4) ? 51 : 3));

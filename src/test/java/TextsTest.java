@@ -200,6 +200,31 @@ public final class TextsTest {
         loadError(hundred + "rule(0)(0)(0);rule(1)(0);start a(2)", 5, 106 + 14 + 11 + 7);
         loadError(hundred + "start(0)(0)(0)(0)(1)", 4, 124);
         loadError(hundred + "start(0)(0)(0)(0)(99)", 2, 124);
+        promise3ItemsBeyondARow(hundred);
+    }
+
+    /** What is wrong at the bracket of an item is ahead of what is wrong behind its RULE. */
+    private static void promise3ItemsBeyondARow(String hundred) {
+        String full = hundred + "start(0)(0)(0)(0)";
+        loadError(full + "(0", 5, 123);
+        loadError(full + "(0;", 5, 123);
+        loadError(full + " (0 0)", 5, 124);
+        loadError(full + "(0a)", 5, 123);
+        loadError(full + "(0#", 5, 123);
+        loadError(full + "(", 1, 124);
+        loadError(full + "()", 1, 124);
+        loadError(full + "(0000000", 2, 124);
+        loadError(hundred + "start(0)(0)(0)(0", 1, 122);
+        loadError(hundred + "start(0)(0)(0)a(0", 5, 121);
+        loadError(hundred + "rule(0)(0)(0)(0)(0", 5, 122);
+        String many = "start " + Checks.times("a", 400);
+        loadError("rule ab;" + many + "(0", 5, 414);
+        loadError("rule ab;start " + Checks.times("a", 399) + "(0", 5, 413);
+        loadError("rule ab;start " + Checks.times("a", 398) + "(0", 1, 414);
+        loadError(many + "(0)", 5, 406);
+        loadError("start " + Checks.times("a", 399) + "(0)", 4, 406);
+        loadError(many + "(40)", 2, 407);
+        loadError(many + "(a)", 1, 407);
     }
 
     private static void scriptError(String script, int code, int position) {
