@@ -2,6 +2,7 @@
 final class Checks {
     private static int wrong = 0;
     private static int made = 0;
+    private static String heading = "";
 
     private Checks() {
     }
@@ -10,19 +11,27 @@ final class Checks {
         long answer();
     }
 
+    /** Says what the checks that follow belong to. */
+    static void under(String text) {
+        heading = text;
+    }
+
+    private static void tellWrong(String text) {
+        wrong++;
+        System.out.println((heading.isEmpty() ? "" : heading + ": ") + text);
+    }
+
     static void due(String what, long got, long want) {
         made++;
         if (got != want) {
-            wrong++;
-            System.out.println(what + " answered " + got + ", due is " + want);
+            tellWrong(what + " answered " + got + ", due is " + want);
         }
     }
 
     static void due(String what, String got, String want) {
         made++;
         if (!got.equals(want)) {
-            wrong++;
-            System.out.println(what + " answered " + got + ", due is " + want);
+            tellWrong(what + " answered " + got + ", due is " + want);
         }
     }
 
@@ -38,8 +47,7 @@ final class Checks {
             }
             got = "threw " + e;
         }
-        wrong++;
-        System.out.println(what + " " + got + ", due is " + want.getName());
+        tellWrong(what + " " + got + ", due is " + want.getName());
     }
 
     static void badArgument(String what, Call call) {
