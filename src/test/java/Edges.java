@@ -104,18 +104,20 @@ final class Edges {
         return setup.append("start(39)").append(statements).toString();
     }
 
-    /**
-     * 199 letters without a pair that comes twice, and the same again: each step but the first one
-     * makes the only rule longer by a letter, as the longest pair is chosen.
-     */
-    static String twice() {
+    /** 199 letters without a pair that comes twice. */
+    static String unlikePairs() {
         StringBuilder row = new StringBuilder();
         for (int leap : new int[] {1, 3, 5, 7, 9, 11, 15, 17}) {
             for (int i = 0; i < 26 && row.length() < 199; i++) {
                 row.append((char) ('a' + i * leap % 26));
             }
         }
-        return "start " + row + row + ";tie 2";
+        return row.toString();
+    }
+
+    /** Each step but the first one makes the only rule longer by a letter, as the longest pair is chosen. */
+    static String twice() {
+        return "start " + unlikePairs() + unlikePairs() + ";tie 2";
     }
 
     interface Parameter {

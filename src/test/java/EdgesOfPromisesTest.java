@@ -56,6 +56,16 @@ public final class EdgesOfPromisesTest {
         Checks.due("none of the four", nearly.feed(0, 0, 0, 0, 0), 597);
         Checks.due("597 bytes and three more", nearly.feed(0, 0x62000000, 0, 0x620062, 0), 600);
         Checks.due("all of the three", nearly.load(), 4);
+        for (int i = 0; i < 5; i++) {
+            int[] fours = new int[5];
+            fours[i] = 0x62626262;
+            PairRules one = new PairRules();
+            Checks.feed(one, "start a" + Checks.times(" ", 590));
+            Checks.due("597 bytes and four more in the parameter " + i, one.feed(fours[0], fours[1], fours[2], fours[3], fours[4]), NONE);
+            fours[i] = 0x62620062;
+            Checks.due("597 bytes and three more in the parameter " + i, one.feed(fours[0], fours[1], fours[2], fours[3], fours[4]), 600);
+            Checks.due("they are appended", one.load(), 4);
+        }
         PairRules last = new PairRules();
         Checks.feed(last, Checks.times(" ", 599));
         Checks.due("599 bytes and two more", last.feed(0x2020, 0, 0, 0, 0), NONE);
@@ -214,6 +224,10 @@ public final class EdgesOfPromisesTest {
             rules.append(i % 2);
             Checks.due("changes that can be undone", rules.size(11), Math.min(i, 8));
         }
+        rules.append(25);
+        Checks.due("unlike letters as they are now", rules.size(9), 3);
+        rules.cut(11);
+        Checks.due("unlike letters as they are now", rules.size(9), 1);
         Doc.says("Promise 6", "Throws `IllegalArgumentException` if what is out of range");
         Edges.outside("size", 0, 11, rules::size);
     }
@@ -243,6 +257,28 @@ public final class EdgesOfPromisesTest {
         for (int rule = 0; rule < 4; rule++) {
             for (int what = 0; what < 5; what++) {
                 Checks.due("rule " + rule + " " + what, rules.rule(rule, what), due[rule][what]);
+            }
+        }
+        // a rule of a low number that is made of one of a high number
+        PairRules crossed = Checks.loaded("rule cd;rule(0)(0)e;rule(1)f;start(2)(1)ab(2)(1)");
+        crossed.expand(0);
+        crossed.make(28, 27);
+        Checks.due("its rows", Edges.rows(crossed), "(0)ab(0) 0=(2)(1) 1=cdcde 2=(1)f");
+        int[][] crosses = {{2, 2, 11, 3, 2}, {5, 2, 5, 1, 4}, {2, 1, 6, 2, 2}};
+        for (int rule = 0; rule < 3; rule++) {
+            for (int what = 0; what < 5; what++) {
+                Checks.due("crossed rule " + rule + " " + what, crossed.rule(rule, what), crosses[rule][what]);
+            }
+        }
+        Checks.due("crossed rules are as deep", crossed.size(8), 3);
+        PairRules behind = Checks.loaded("rule xy;rule cd;rule(1)(1)e;start(0)(0)(2)(2)(2)");
+        behind.expand(1);
+        behind.make(28, 28);
+        Checks.due("its rows", Edges.rows(behind), "(0)(0)(1)(2) 0=xy 1=(2)(2) 2=cdcde");
+        int[][] lies = {{2, 2, 2, 1, 2}, {2, 1, 10, 2, 1}, {5, 3, 5, 1, 3}};
+        for (int rule = 0; rule < 3; rule++) {
+            for (int what = 0; what < 5; what++) {
+                Checks.due("rule " + rule + " " + what + " behind a short one", behind.rule(rule, what), lies[rule][what]);
             }
         }
         PairRules many = Edges.fits("rule ab;rule(0)(0);rule(1)(1);rule(2)(2);rule(3)(3);rule(4)(4);start(5)(5)(5)(5)(5)(5)", 384);
@@ -312,6 +348,10 @@ public final class EdgesOfPromisesTest {
         Checks.due("the last letter", rules.letters(25), 2);
         Checks.due("one of a rule without USES", rules.letters(1), 0);
         Checks.due("400 times", Edges.fits(Edges.HUNDRED + "start(0)(0)(0)(0)", 400).letters(0), 400);
+        rules.append(25);
+        Checks.due("as it is now", rules.letters(25), 3);
+        rules.cut(3);
+        Checks.due("as it is now", rules.letters(25), 1);
         Doc.says("Promise 13", "@throws IllegalArgumentException if letter is out of range.");
         Edges.outside("letters", 0, 25, rules::letters);
     }
@@ -354,6 +394,9 @@ public final class EdgesOfPromisesTest {
         Checks.due("a setup with an error leaves them", rules.account(5), 10);
         Checks.load(rules, "start a");
         Checks.due("a new setup", Checks.accounts(rules), "0 0 0 0 0 0 0 0 0");
+        PairRules places = Checks.loaded("rule ababab;rule xab;start(0)(0)(1)(1)cab");
+        places.make(0, 1);
+        Checks.due("places in all rows", places.account(5), 5);
         Doc.says("Promise 14", "@throws IllegalArgumentException if what is out of range.");
         Edges.outside("account", 0, 8, rules::account);
     }
@@ -601,6 +644,11 @@ public final class EdgesOfPromisesTest {
         Checks.due("with one USE", Checks.loaded("rule ab;start(0);inline 0").inlinable(), 1);
         Checks.due("without USES", Checks.loaded("rule ab;start c").inlinable(), 1);
         Checks.due("only as another one is removed", Checks.loaded("rule ab;rule(0)(0);start c").inlinable(), 2);
+        PairRules later = Checks.loaded("rule ab;start(0)(0)");
+        later.cut(2);
+        Checks.due("as it is now", later.inlinable(), 1);
+        later.undo();
+        Checks.due("as it is now", later.inlinable(), 0);
         PairRules all = Checks.loaded(Edges.chain(""));
         Checks.due("all forty", all.inlinable(), 40);
         Checks.due("nothing changes", all.size(2) * 10 + all.size(11), 400);

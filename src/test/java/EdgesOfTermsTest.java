@@ -276,6 +276,9 @@ public final class EdgesOfTermsTest {
         best("rule ghij;rule klmn;start a(1)xa(1)ya(0)xa(0);tie 2", 0, 26, 2);
         best("start zaxzaybcxbc;tie 2", 1, 2, 2);
         best("start bzxbzybaxba;tie 2", 1, 0, 2);
+        best("rule pqrstzax;rule bczay;rule bcw;start u;tie 1", 25, 0, 2);
+        best("rule acq;rule aczx;start " + Edges.unlikePairs() + "zx;tie 1", 25, 23, 2);
+        best("rule " + Edges.unlikePairs() + "zx;rule acq;rule aczx;start u;tie 1", 25, 23, 2);
         // COUNT goes ahead of every TIE, and the places that count are those where it is found
         best("rule ghij;start abab(0)xabq(0)x;tie 2", 0, 1, 3);
         best("start cdxcdabxabab;tie 1", 0, 1, 3);

@@ -104,6 +104,10 @@ public final class EdgesOfTextsTest {
         Edges.loadFails("start a;start b", 1, 8);
         Edges.loadFails("start a;rule ab", 1, 8);
         Edges.loadFails("start a;tie", 1, 11);
+        String[] wrongWords = {"xtart a", "sxart a", "starx a", "star a", "starts a", "xule ab;start a", "rulx ab;start a"};
+        for (String wrong : wrongWords) {
+            Edges.loadFails(wrong, 1, 0);
+        }
         Doc.says(PART, "item = LETTERS | \"(\" RULE \")\"");
         Edges.loadFails("start 0", 1, 6);
         Edges.loadFails("start (a)", 1, 7);
@@ -114,6 +118,16 @@ public final class EdgesOfTextsTest {
         Edges.loadFails("start a;mode 1", 1, 8);
         Edges.loadFails("start a;step 1", 1, 8);
         Edges.loadFails("start a;tie a", 1, 12);
+        for (String word : new String[] {"xeast", "leasx", "lest", "xie", "ties", "xnline", "inlinx", "inlined"}) {
+            Edges.loadFails("start a;" + word + " 2", 1, 8);
+        }
+        PairRules again = new PairRules();
+        for (int i = 0; i < 3; i++) {
+            Checks.due("each setup by itself", Checks.load(again, "start a;least 3;tie 1;inline 0"), 1);
+            Checks.due("each setup by itself", Edges.numbers(again), 310);
+            Checks.due("also behind one with an error", Checks.load(again, "rule ab;start a;tie 2;inline 1;least 9;?"), -11);
+            Checks.due("each setup by itself", Checks.load(again, "start (0)"), -14);
+        }
     }
 
     private static void scripts() {
@@ -134,7 +148,9 @@ public final class EdgesOfTextsTest {
             PairRules rules = Checks.loaded("rule ab;start abab");
             Checks.due("play of " + order, Checks.play(rules, order + ";"), order.startsWith("again") ? 0 : 1);
             String word = order.replaceAll(" .*", "");
-            Edges.playFails(word + "x;", 1, 0);
+            Edges.playFails(word + "x" + order.substring(word.length()) + ";", 1, 0);
+            Edges.playFails("x" + order.substring(1) + ";", 1, 0);
+            Edges.playFails(word.substring(0, word.length() - 1) + "x" + order.substring(word.length()) + ";", 1, 0);
             Edges.playFails(word + ";;", 1, word.equals("inlined") ? 8 : word.length());
         }
         String[] others = {"inline 1", "rule ab", "start a", "letters", "x", "undo"};
@@ -393,6 +409,15 @@ public final class EdgesOfTextsTest {
         Edges.plays("start a", Checks.times("again 1();", 29) + "append b;", 1, "ab");
         Edges.playFails(Checks.times("again 0();", 30) + "append b;", 5, 300);
         Edges.plays("start a", "again 20(" + Checks.times("append b;", 29) + ");", 40, "a" + Checks.times("b", 40));
+        Edges.plays("start a", Checks.times("again 1(append b;);", 15), 15, "a" + Checks.times("b", 15));
+        Edges.plays("start a", Checks.times("again 1(again 2();again 1(append b;););", 7) + "append c;", 8, "abbbbbbbc");
+        PairRules again = Checks.loaded("start a");
+        for (int i = 0; i < 3; i++) {
+            Checks.due("each script by itself", Checks.play(again, Checks.times("inlined;", 20)), 20);
+            Checks.due("also behind one with an error", Checks.play(again, "again 1(again 1(append b;"), -11);
+            Checks.due("each script by itself", Checks.play(again, "again 1(again 1(append b;););"), 1);
+            Checks.due("also behind one with too many orders", Checks.play(again, thirty + "append b;"), -15);
+        }
         Edges.plays("start a", "again 1(again 1(append b;););", 1, "ab");
         Edges.playFails("again 1(again 1(again 1(append b;);););", 5, 23);
         Edges.playFails("again 0(again 0(again 0 ();););", 5, 24);
