@@ -67,15 +67,25 @@ public final class RandomRunsTest {
             return below(70) - 2;
         }
         if (kind < 9) {
-            int place = below(Math.max(1, real.size(1)));
-            return real.startAt(place);
+            return naive.startAt(below(naive.size(1)));
         }
         return kind < 14 ? below(4) : 26 + below(6);
     }
 
+    /** Two SYMBOLS that often stand one behind the other. */
+    private int[] pair() {
+        int many = naive.size(1);
+        if (many < 2 || below(2) == 0) {
+            return new int[] {symbol(), symbol()};
+        }
+        int place = below(many - 1);
+        return new int[] {naive.startAt(place), naive.startAt(place + 1)};
+    }
+
     private void ask() {
-        int a = symbol();
-        int b = symbol();
+        int[] pair = pair();
+        int a = pair[0];
+        int b = pair[1];
         int rule = below(8) == 0 ? below(44) - 2 : below(6);
         int place = below(4) == 0 ? below(404) - 2 : below(8);
         int what = below(14) - 1;
@@ -113,8 +123,9 @@ public final class RandomRunsTest {
     }
 
     private void change() {
-        int a = symbol();
-        int b = symbol();
+        int[] pair = pair();
+        int a = pair[0];
+        int b = pair[1];
         int rule = below(8) == 0 ? below(44) - 2 : below(6);
         int steps = below(6) == 0 ? below(54) - 1 : 1 + below(3);
         int letter = below(12) == 0 ? below(30) - 2 : below(4);
@@ -163,10 +174,18 @@ public final class RandomRunsTest {
         }
     }
 
+    private String setup() {
+        switch (below(10)) {
+            case 0: case 1: return texts.fullSetup();
+            case 2: return texts.crowdedSetup();
+            default: return texts.setup();
+        }
+    }
+
     private void run() {
         for (int i = below(3); i < 3; i++) {
             if (i > 0) {
-                feed(below(5) == 0 ? texts.fullSetup() : texts.setup());
+                feed(setup());
                 same("load", real::load, naive::load);
                 same("errorPosition", real::errorPosition, naive::errorPosition);
             }

@@ -53,6 +53,19 @@ final class RandomTexts {
         return hurt(text.toString());
     }
 
+    /** Nearly as many rules as there are numbers, most of them of two SYMBOLS, so that some are alike. */
+    String crowdedSetup() {
+        int alphabet = 1 + random.nextInt(4);
+        int rules = 34 + random.nextInt(7);
+        StringBuilder text = new StringBuilder();
+        for (int i = 0; i < rules; i++) {
+            boolean nests = i > 0 && once(3);
+            text.append("rule ").append(nests ? "(" + random.nextInt(Math.min(i, 9)) + ")" : word(1, alphabet));
+            text.append(word(once(5) ? 3 : 1, alphabet)).append(';');
+        }
+        return text.append("start ").append(items(12, 12, rules, alphabet)).append(statements()).toString();
+    }
+
     /** A row of about 400 letters, which often ends inside an item. */
     String fullSetup() {
         int unit = 2 + random.nextInt(100);
